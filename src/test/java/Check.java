@@ -1,0 +1,70 @@
+import java.nio.charset.StandardCharsets;
+
+/** What the tests share: telling a text to an object, and comparing answers with what is due. */
+final class Check {
+    private final String name;
+    private int wrong = 0;
+    private int asked = 0;
+
+    Check(String name) {
+        this.name = name;
+    }
+
+    void due(String call, long got, long want) {
+        asked++;
+        if (got != want) {
+            wrong++;
+            if (wrong <= 50) {
+                System.out.println(name + ": " + call + " answered " + got + ", due is " + want);
+            }
+        }
+    }
+
+    /** Answers of one call for the arguments 0, 1, 2 .. */
+    void row(String call, int[] got, int... want) {
+        for (int i = 0; i < Math.max(got.length, want.length); i++) {
+            due(call + " [" + i + "]", i < got.length ? got[i] : Long.MIN_VALUE, i < want.length ? want[i] : Long.MIN_VALUE);
+        }
+    }
+
+    void wrong(String what) {
+        due(what, 1, 0);
+    }
+
+    /** Ends the test: with exit code 1 if an answer was not as due. */
+    void finish() {
+        System.out.println(name + ": " + asked + " answers, " + wrong + " not as due");
+        if (wrong != 0) {
+            System.exit(1);
+        }
+    }
+
+    static HeapVersions planned(String text) {
+        HeapVersions x = new HeapVersions();
+        tell(x, text);
+        x.plan();
+        return x;
+    }
+
+    /** The text's bytes alone stand on the TAPE then. */
+    static void tell(HeapVersions x, String text) {
+        tellBytes(x, text.getBytes(StandardCharsets.ISO_8859_1));
+    }
+
+    static void tellBytes(HeapVersions x, byte[] bytes) {
+        x.end(0);
+        for (int[] five : fives(bytes)) {
+            x.feed(five[0], five[1], five[2], five[3], five[4]);
+        }
+        x.end(bytes.length);
+    }
+
+    /** The arguments of the feeds that bring the bytes, with zeros behind them. */
+    static int[][] fives(byte[] bytes) {
+        int[][] fives = new int[(bytes.length + 19) / 20][5];
+        for (int i = 0; i < bytes.length; i++) {
+            fives[i / 20][i % 20 / 4] |= (bytes[i] & 255) << 24 - i % 4 * 8;
+        }
+        return fives;
+    }
+}
