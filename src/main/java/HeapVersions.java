@@ -1215,17 +1215,13 @@ public final class HeapVersions {
             }
         }
 
-        int linksToEmpty(int version) {
-            return empty(version);
-        }
-
         int mostToEmpty(int version) {
-            empty(version);
+            linksToEmpty(version);
             return linkedMost;
         }
 
         /** What is made on the way is of no VERSION, so its room is given back. */
-        private int empty(int version) {
+        int linksToEmpty(int version) {
             int cellsBefore = cells.cells();
             int rowsBefore = cells.rows();
             int together = 0;

@@ -1,0 +1,232 @@
+/** Promises 1 to 6: a new object, the TAPE, the PLAN and its FAULTS, counts. */
+public final class TextTest {
+    private static final Check CHECK = new Check("TextTest");
+    private static final String PLAN = "plan law 1 hands 3;";
+    /** VERSIONS 0 to 6 have 0, 1, 2, 4, 8, 16, 24 JOBS. */
+    private static final String FULL = "plan law 0 hands 1;new;put 0 5 for 1;join 1 1;join 2 2;join 3 3;join 4 4;join 5 4;";
+
+    public static void main(String[] args) {
+        newObject();
+        tape();
+        planCounts();
+        planAgain();
+        soundTexts();
+        faultsOfTokens();
+        faultsOfNumbers();
+        faultsOfVersions();
+        CHECK.finish();
+    }
+
+    private static void newObject() {
+        HeapVersions x = new HeapVersions();
+        CHECK.due("NONE", HeapVersions.NONE, -1);
+        CHECK.row("count", counts(x), 0, 0, 0, 0, 0, 0, 0, 0);
+        CHECK.due("fault(0)", x.fault(0), 0);
+        CHECK.due("fault(1)", x.fault(1), -1);
+        CHECK.due("all()", x.all(), -2);
+        CHECK.due("lean()", x.lean(), -2);
+        CHECK.due("undo()", x.undo(), -2);
+        CHECK.due("anew()", x.anew(), -2);
+        CHECK.due("size(0)", x.size(0), -2);
+        CHECK.due("plan()", x.plan(), 0);
+        CHECK.due("all() behind an empty plan", x.all(), -2);
+    }
+
+    private static void tape() {
+        HeapVersions x = new HeapVersions();
+        CHECK.due("end(0)", x.end(0), 0);
+        CHECK.due("end(1)", x.end(1), -1);
+        CHECK.due("end(-1)", x.end(-1), -1);
+        CHECK.due("feed", x.feed(-1, -1, -1, -1, -1), 20);
+        CHECK.due("end(21)", x.end(21), -1);
+        CHECK.due("count(7)", x.count(7), 20);
+        CHECK.due("end(-1)", x.end(-1), -1);
+        CHECK.due("end(20)", x.end(20), 20);
+        CHECK.due("end(3)", x.end(3), 3);
+        CHECK.due("count(7)", x.count(7), 3);
+        CHECK.due("end(4)", x.end(4), -1);
+        for (int n = 23; n <= 583; n += 20) {
+            CHECK.due("feed", x.feed(0, 0, 0, 0, 0), n);
+        }
+        CHECK.due("feed beyond 600", x.feed(0, 0, 0, 0, 0), -1);
+        CHECK.due("count(7)", x.count(7), 583);
+        CHECK.due("end(581)", x.end(581), 581);
+        CHECK.due("feed beyond 600", x.feed(0, 0, 0, 0, 0), -1);
+        CHECK.due("end(580)", x.end(580), 580);
+        CHECK.due("feed to 600", x.feed(0, 0, 0, 0, 0), 600);
+        CHECK.due("end(600)", x.end(600), 600);
+        CHECK.due("feed beyond 600", x.feed(0, 0, 0, 0, 0), -1);
+        x.end(0);
+        int word = 'p' << 24 | 'l' << 16 | 'a' << 8 | 'n';
+        x.feed(word, ' ' << 24 | 'l' << 16 | 'a' << 8 | 'w', ' ' << 24 | '0' << 16 | 'h' << 8 | 'a',
+                'n' << 24 | 'd' << 16 | 's' << 8 | '2', ';' << 24 | ' ' << 16 | 10 << 8 | ' ');
+        CHECK.due("plan() of the highest byte first", x.plan(), 1);
+        CHECK.due("count(1)", x.count(1), 2);
+        CHECK.due("count(7): the TAPE is empty", x.count(7), 0);
+    }
+
+    private static void planCounts() {
+        HeapVersions x = new HeapVersions();
+        Check.tell(x, PLAN + "new;put 0 5 for 1;put 1 4 for 2;join 1 2;take 3;");
+        CHECK.due("plan()", x.plan(), 6);
+        CHECK.row("count", counts(x), 1, 3, 5, 2, 5, 0, 6, 0);
+        x.puts(4, 9, 9);
+        x.joins(0, 1);
+        x.takes(5);
+        CHECK.row("count with acts", counts(x), 1, 3, 8, 3, 5, 3, 6, 0);
+        CHECK.due("count(8)", x.count(8), -1);
+        CHECK.due("count(-1)", x.count(-1), -1);
+        CHECK.due("count(most)", x.count(Integer.MAX_VALUE), -1);
+        CHECK.due("fault(0)", x.fault(0), 0);
+        CHECK.due("fault(1)", x.fault(1), -1);
+        CHECK.due("fault(2)", x.fault(2), -1);
+        CHECK.due("fault(-1)", x.fault(-1), -1);
+    }
+
+    private static void planAgain() {
+        HeapVersions x = Check.planned(PLAN + "new;put 0 5 for 1;");
+        x.puts(1, 7, 2);
+        Check.tell(x, PLAN + "new;put 0 5 for 1;put 1 4 for 100;");
+        CHECK.due("plan() with a FAULT", x.plan(), -4);
+        CHECK.due("fault(0)", x.fault(0), 2);
+        CHECK.due("fault(1)", x.fault(1), 49);
+        CHECK.due("fault(2)", x.fault(2), -1);
+        CHECK.row("count: all else stays", counts(x), 1, 3, 3, 2, 2, 1, 3, 0);
+        CHECK.due("size(2) stays", x.size(2), 2);
+        CHECK.due("job(1, 0) stays", x.job(1, 0), 7);
+        Check.tell(x, "plan law 0 hands 4;new;");
+        CHECK.due("plan() in place of another", x.plan(), 2);
+        CHECK.row("count: no acts", counts(x), 0, 4, 1, 0, 1, 0, 2, 0);
+        CHECK.due("fault(0)", x.fault(0), 0);
+        CHECK.due("fault(1)", x.fault(1), -1);
+        x.puts(0, 1, 1);
+        Check.tell(x, " \n ");
+        CHECK.due("plan() of blanks", x.plan(), 0);
+        CHECK.row("count: there is none", counts(x), 0, 0, 0, 0, 0, 0, 0, 0);
+        CHECK.due("undo()", x.undo(), -2);
+        Check.tell(x, "plan law 0 hands 4;");
+        CHECK.due("plan() of one LINE", x.plan(), 1);
+        CHECK.row("count: no VERSIONS", counts(x), 0, 4, 0, 0, 0, 0, 1, 0);
+        CHECK.due("all()", x.all(), 0);
+        CHECK.due("lean()", x.lean(), 0);
+        CHECK.due("undo()", x.undo(), -5);
+        CHECK.due("anew()", x.anew(), 0);
+        CHECK.due("size(0)", x.size(0), -2);
+    }
+
+    private static void soundTexts() {
+        sound("", 0);
+        sound(" ", 0);
+        sound("plan law 0 hands 1;", 1);
+        sound("\nplan\nlaw 0 hands 4 ;\n \n", 1);
+        sound("plan law0hands1;new;put0 999for99;put 1 0for1;take2;", 5);
+        sound("plan law 00 hands 01;new;put 000000000000 0999 for 0099;", 3);
+        sound(FULL, 8);
+        sound(FULL + "join 6 0;join 0 6;take 6;put 9 1 for 1;join 9 1;", 13);
+        sound(PLAN + "new;".repeat(20), 21);
+        sound(PLAN + "new;".repeat(20) + " ".repeat(501), 21);
+    }
+
+    private static void faultsOfTokens() {
+        fault(1, "^new;");
+        fault(1, "^;");
+        fault(1, "^0");
+        fault(1, "  ^planx law 0 hands 1;");
+        fault(1, "^Plan law 0 hands 1;");
+        fault(1, "plan ^hands 0 law 1;");
+        fault(1, "plan law ^;");
+        fault(1, "plan law ^x hands 1;");
+        fault(1, "plan law 0 ^law 1;");
+        fault(1, "plan law 0 hands ^hands;");
+        fault(1, "plan law 0 hands 1 ^new;");
+        fault(1, "plan law 0 hands 1^");
+        fault(1, "plan law 0 hands 1 \n ^");
+        fault(1, "plan ^");
+        fault(1, PLAN + "^;");
+        fault(1, PLAN + "new;^;");
+        fault(1, PLAN + "^plan law 1 hands 3;");
+        fault(1, PLAN + "^newnew;");
+        fault(1, PLAN + "^ne;");
+        fault(1, PLAN + "^7;");
+        fault(1, PLAN + "new ^0;");
+        fault(1, PLAN + "new^");
+        fault(1, PLAN + "new;take^");
+        fault(1, PLAN + "new;put 0 5 ^4 1;");
+        fault(1, PLAN + "new;put 0 5 ^forx 1;");
+        fault(1, PLAN + "new;put 0 5 for ^for;");
+        fault(1, PLAN + "new;put 0 ^- 5 for 1;");
+        fault(1, PLAN + "new;put 0 5 for 1 ^2;");
+        fault(1, PLAN + "new;join 0 ^;");
+        fault(1, PLAN + "new;join 0 0 ^0;");
+        fault(1, PLAN + "new;put 0 5 for 1;take 1^,");
+        fault(1, PLAN + "new;^\tnew;");
+        fault(1, PLAN + "new;^\r\nnew;");
+        fault(1, PLAN + "new;^\0");
+        fault(1, PLAN + "new;^\u00e9;");
+        fault(1, PLAN + "ne^\u00e9w;".replace("ne^", "^ne"));
+    }
+
+    private static void faultsOfNumbers() {
+        fault(2, "plan law ^2 hands 1;");
+        fault(2, "plan law ^2 hands 9;");
+        fault(2, "plan law 1 hands ^0;");
+        fault(2, "plan law 1 hands ^5;");
+        fault(2, "plan law 1 hands ^4294967297;");
+        fault(2, PLAN + "put ^0 5 for 1;");
+        fault(2, PLAN + "new;put ^1 5 for 1;");
+        fault(2, PLAN + "new;put 0 ^1000 for 1;");
+        fault(2, PLAN + "new;put 0 ^18446744073709551616 for 1;");
+        fault(2, PLAN + "new;put 0 999 for ^0;");
+        fault(2, PLAN + "new;put 0 999 for ^100;");
+        fault(2, PLAN + "new;join ^1 0;");
+        fault(2, PLAN + "new;join 0 ^1;");
+        fault(2, PLAN + "new;take ^1;");
+        fault(2, PLAN + "new;take ^0;");
+        fault(2, PLAN + "new;put 0 1 for 1;take 1;take ^2;");
+        fault(2, PLAN + "new;take ^0 x");
+    }
+
+    private static void faultsOfVersions() {
+        fault(2, FULL + "put ^6 5 for 1;");
+        fault(2, FULL + "put ^6 1000 for 1;");
+        fault(2, FULL + "join 6 ^1;");
+        fault(2, FULL + "join 1 ^6;");
+        fault(2, FULL + "join 5 ^5;");
+        fault(3, PLAN + "new;".repeat(20) + "^new;");
+        fault(3, PLAN + "new;".repeat(20) + "^put 0 1 for 1;");
+        fault(3, PLAN + "new;".repeat(20) + "^join x");
+        fault(3, PLAN + "new;".repeat(20) + "^take 0;");
+        fault(1, PLAN + "new;".repeat(20) + "^plan law 0 hands 1;");
+        fault(1, PLAN + "new;".repeat(20) + "^news;");
+        fault(1, PLAN + "new;".repeat(20) + "^;");
+        fault(2, PLAN + "new;".repeat(19) + "join 0 ^19;");
+    }
+
+    private static void sound(String text, int lines) {
+        HeapVersions x = new HeapVersions();
+        Check.tell(x, text);
+        CHECK.due("plan() of " + text, x.plan(), lines);
+        CHECK.due("fault(0) of " + text, x.fault(0), 0);
+        CHECK.due("fault(1) of " + text, x.fault(1), -1);
+        CHECK.due("count(6) of " + text, x.count(6), lines);
+    }
+
+    /** The sign ^ stands ahead of the place of the FAULT. */
+    private static void fault(int what, String marked) {
+        HeapVersions x = new HeapVersions();
+        Check.tell(x, marked.replace("^", ""));
+        CHECK.due("plan() of " + marked, x.plan(), -4);
+        CHECK.due("fault(0) of " + marked, x.fault(0), what);
+        CHECK.due("fault(1) of " + marked, x.fault(1), marked.indexOf('^'));
+        CHECK.due("count(6) of " + marked, x.count(6), 0);
+        CHECK.due("count(7) of " + marked, x.count(7), 0);
+    }
+
+    private static int[] counts(HeapVersions x) {
+        int[] counts = new int[8];
+        for (int what = 0; what < 8; what++) {
+            counts[what] = x.count(what);
+        }
+        return counts;
+    }
+}
