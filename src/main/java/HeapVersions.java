@@ -41,10 +41,7 @@ public final class HeapVersions {
     private int told;
 
     public HeapVersions() {
-        law = 0;
-        hands = 0;
-        lines = 0;
-        told = 0;
+        // all that is ever made is made by the fields above: calls make nothing
     }
 
     // ---- the text and the plan

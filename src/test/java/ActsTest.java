@@ -11,6 +11,7 @@ public final class ActsTest {
         full();
         undo();
         anew();
+        longRuns();
         CHECK.finish();
     }
 
@@ -140,5 +141,39 @@ public final class ActsTest {
         CHECK.due("undo()", x.undo(), -5);
         CHECK.due("size(6)", x.size(6), 24);
         CHECK.due("takes(6)", x.takes(6), 7);
+    }
+
+    /** Whatever was made and is no more leaves its room to what is made behind it. */
+    private static void longRuns() {
+        HeapVersions x = Check.planned(FULL);
+        int drain = x.drain(6);
+        int dearest = x.dearest(6);
+        for (int i = 0; i < 200; i++) {
+            CHECK.due("drain(6)", x.drain(6), drain);
+            CHECK.due("dearest(6)", x.dearest(6), dearest);
+        }
+        HeapVersions y = Check.planned(FULL);
+        CHECK.due("takes(6)", y.takes(6), 7);
+        int[] first = about(y, 7);
+        for (int i = 0; i < 220; i++) {
+            CHECK.due("undo()", y.undo(), 0);
+            CHECK.due("takes(6)", y.takes(6), 7);
+        }
+        CHECK.row("what VERSION 7 is", about(y, 7), first);
+        HeapVersions z = Check.planned(FULL);
+        z.takes(6);
+        for (int i = 0; i < 20; i++) {
+            for (int v = 7; v < 30; v++) {
+                z.takes(v == 7 ? 6 : v - 1);
+            }
+            z.anew();
+        }
+        z.takes(6);
+        CHECK.row("what VERSION 7 is", about(z, 7), first);
+    }
+
+    private static int[] about(HeapVersions x, int v) {
+        return new int[] {x.size(v), x.least(v), x.trees(v), x.rank(v, 0), x.holds(v, 0), x.holds(v, 1), x.singles(v, 0),
+            x.depth(v), x.parts(v), x.own(v), x.shared(v, v - 1), x.links(v), x.drain(v), x.dearest(v)};
     }
 }

@@ -14,6 +14,7 @@ public final class TextTest {
         faultsOfTokens();
         faultsOfNumbers();
         faultsOfVersions();
+        faultsBehindOtherTexts();
         CHECK.finish();
     }
 
@@ -147,6 +148,14 @@ public final class TextTest {
         fault(1, PLAN + "^plan law 1 hands 3;");
         fault(1, PLAN + "^newnew;");
         fault(1, PLAN + "^ne;");
+        fault(1, PLAN + "^xew;");
+        fault(1, PLAN + "^nex;");
+        fault(1, PLAN + "^newz;");
+        fault(1, PLAN + "^anew;");
+        fault(1, PLAN + "^`;");
+        fault(1, PLAN + "new^{;");
+        fault(1, PLAN + "new;put ^/ 5 for 1;");
+        fault(1, PLAN + "new;put 0^: 5 for 1;");
         fault(1, PLAN + "^7;");
         fault(1, PLAN + "new ^0;");
         fault(1, PLAN + "new^");
@@ -200,6 +209,23 @@ public final class TextTest {
         fault(1, PLAN + "new;".repeat(20) + "^news;");
         fault(1, PLAN + "new;".repeat(20) + "^;");
         fault(2, PLAN + "new;".repeat(19) + "join 0 ^19;");
+    }
+
+    /** What an earlier text told is of no weight for a later one. */
+    private static void faultsBehindOtherTexts() {
+        HeapVersions x = Check.planned(FULL);
+        String[] texts = {"new;take ^1;", "new;take ^6;", "new;put ^6 1 for 1;", "new;join 0 ^1;", "new;put 0 1 for 1;take ^2;"};
+        for (String text : texts) {
+            Check.tell(x, PLAN + text.replace("^", ""));
+            CHECK.due("plan() of " + text, x.plan(), -4);
+            CHECK.due("fault(0) of " + text, x.fault(0), 2);
+            CHECK.due("fault(1) of " + text, x.fault(1), PLAN.length() + text.indexOf('^'));
+            CHECK.due("size(6) stays", x.size(6), 24);
+        }
+        Check.tell(x, PLAN + "new;put 0 1 for 1;take 1;put 2 3 for 1;");
+        CHECK.due("plan()", x.plan(), 5);
+        CHECK.due("size(3)", x.size(3), 1);
+        CHECK.due("size(4)", x.size(4), -2);
     }
 
     private static void sound(String text, int lines) {
