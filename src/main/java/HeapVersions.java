@@ -1009,13 +1009,13 @@ public final class HeapVersions {
      */
     private static final class Cells {
         /**
-         * To make a VERSION, at most 32 CELLS and 64 parts of rows are made: no RANK is above 4, as a TREE of
-         * RANK r has 2 to the r JOBS at least; so a QUEUE has at most 6 TREES, and a TREE 4 SUBTREES, 4 SINGLES.
-         * Room for as many VERSIONS as there can be, and for one more that is emptied.
+         * To make a VERSION, at most 16 CELLS and 48 parts of rows are made, as a TREE of RANK r has 2 to the r JOBS
+         * at least and a VERSION 24 at most (NOTES.md reckons it). Room for as many VERSIONS as there can be, and for
+         * one more that is emptied.
          */
         private static final int MAKES_MOST = VERSIONS_MOST + SIZE_MOST;
-        private static final int CELLS_MOST = 32 * MAKES_MOST;
-        private static final int ROWS_MOST = 64 * MAKES_MOST;
+        private static final int CELLS_MOST = 16 * MAKES_MOST;
+        private static final int ROWS_MOST = 48 * MAKES_MOST;
 
         private final int[] turns = new int[CELLS_MOST];
         private final int[] ranks = new int[CELLS_MOST];

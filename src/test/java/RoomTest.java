@@ -11,10 +11,11 @@ public final class RoomTest {
 
     public static void main(String[] args) {
         ThreadMXBean room = (ThreadMXBean) ManagementFactory.getThreadMXBean();
+        new HeapVersions().plan();
         long before = room.getCurrentThreadAllocatedBytes();
         HeapVersions x = new HeapVersions();
         long made = room.getCurrentThreadAllocatedBytes();
-        CHECK.due("bytes of a new object, beyond 300,000", Math.max(0, made - before - 300_000), 0);
+        CHECK.due("bytes of a new object, beyond 150,000", Math.max(0, made - before - 150_000), 0);
         byte[] text = ("plan law 0 hands 2;new;put 0 5 for 1;join 1 1;join 2 2;join 3 3;join 4 4;join 5 4;take 6;take 7;")
                 .getBytes(StandardCharsets.ISO_8859_1);
         int[][] fives = Check.fives(text);
