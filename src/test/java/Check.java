@@ -2,6 +2,7 @@ import java.nio.charset.StandardCharsets;
 
 /** What the tests share: telling a text to an object, and comparing answers with what is due. */
 final class Check {
+    /** Of a Check without a name nothing is printed. */
     private final String name;
     private int wrong = 0;
     private int asked = 0;
@@ -14,7 +15,7 @@ final class Check {
         asked++;
         if (got != want) {
             wrong++;
-            if (wrong <= 50) {
+            if (wrong <= 50 && !name.isEmpty()) {
                 System.out.println(name + ": " + call + " answered " + got + ", due is " + want);
             }
         }
@@ -29,6 +30,43 @@ final class Check {
 
     void wrong(String what) {
         due(what, 1, 0);
+    }
+
+    int wrongs() {
+        return wrong;
+    }
+
+    /** A new object with a PLAN of so many LINES. */
+    HeapVersions told(String text, int lines) {
+        HeapVersions x = new HeapVersions();
+        tell(x, text);
+        due("plan() of " + text, x.plan(), lines);
+        return x;
+    }
+
+    void sound(String text, int lines) {
+        HeapVersions x = told(text, lines);
+        due("fault(0) of " + text, x.fault(0), 0);
+        due("fault(1) of " + text, x.fault(1), -1);
+        due("count(6) of " + text, x.count(6), lines);
+    }
+
+    /** The sign ^ stands ahead of the place of the FAULT. */
+    void fault(int what, String marked) {
+        HeapVersions x = told(marked.replace("^", ""), -4);
+        due("fault(0) of " + marked, x.fault(0), what);
+        due("fault(1) of " + marked, x.fault(1), marked.indexOf('^'));
+        due("count(6) of " + marked, x.count(6), 0);
+        due("count(7) of " + marked, x.count(7), 0);
+    }
+
+    /** Answers of count(0), count(1) .. count(7). */
+    static int[] counts(HeapVersions x) {
+        int[] counts = new int[8];
+        for (int what = 0; what < 8; what++) {
+            counts[what] = x.count(what);
+        }
+        return counts;
     }
 
     /** Ends the test: with exit code 1 if an answer was not as due. */

@@ -21,7 +21,7 @@ public final class TextTest {
     private static void newObject() {
         HeapVersions x = new HeapVersions();
         CHECK.due("NONE", HeapVersions.NONE, -1);
-        CHECK.row("count", counts(x), 0, 0, 0, 0, 0, 0, 0, 0);
+        CHECK.row("count", Check.counts(x), 0, 0, 0, 0, 0, 0, 0, 0);
         CHECK.due("fault(0)", x.fault(0), 0);
         CHECK.due("fault(1)", x.fault(1), -1);
         CHECK.due("all()", x.all(), -2);
@@ -70,11 +70,11 @@ public final class TextTest {
         HeapVersions x = new HeapVersions();
         Check.tell(x, PLAN + "new;put 0 5 for 1;put 1 4 for 2;join 1 2;take 3;");
         CHECK.due("plan()", x.plan(), 6);
-        CHECK.row("count", counts(x), 1, 3, 5, 2, 5, 0, 6, 0);
+        CHECK.row("count", Check.counts(x), 1, 3, 5, 2, 5, 0, 6, 0);
         x.puts(4, 9, 9);
         x.joins(0, 1);
         x.takes(5);
-        CHECK.row("count with acts", counts(x), 1, 3, 8, 3, 5, 3, 6, 0);
+        CHECK.row("count with acts", Check.counts(x), 1, 3, 8, 3, 5, 3, 6, 0);
         CHECK.due("count(8)", x.count(8), -1);
         CHECK.due("count(-1)", x.count(-1), -1);
         CHECK.due("count(most)", x.count(Integer.MAX_VALUE), -1);
@@ -92,22 +92,22 @@ public final class TextTest {
         CHECK.due("fault(0)", x.fault(0), 2);
         CHECK.due("fault(1)", x.fault(1), 49);
         CHECK.due("fault(2)", x.fault(2), -1);
-        CHECK.row("count: all else stays", counts(x), 1, 3, 3, 2, 2, 1, 3, 0);
+        CHECK.row("count: all else stays", Check.counts(x), 1, 3, 3, 2, 2, 1, 3, 0);
         CHECK.due("size(2) stays", x.size(2), 2);
         CHECK.due("job(1, 0) stays", x.job(1, 0), 7);
         Check.tell(x, "plan law 0 hands 4;new;");
         CHECK.due("plan() in place of another", x.plan(), 2);
-        CHECK.row("count: no acts", counts(x), 0, 4, 1, 0, 1, 0, 2, 0);
+        CHECK.row("count: no acts", Check.counts(x), 0, 4, 1, 0, 1, 0, 2, 0);
         CHECK.due("fault(0)", x.fault(0), 0);
         CHECK.due("fault(1)", x.fault(1), -1);
         x.puts(0, 1, 1);
         Check.tell(x, " \n ");
         CHECK.due("plan() of blanks", x.plan(), 0);
-        CHECK.row("count: there is none", counts(x), 0, 0, 0, 0, 0, 0, 0, 0);
+        CHECK.row("count: there is none", Check.counts(x), 0, 0, 0, 0, 0, 0, 0, 0);
         CHECK.due("undo()", x.undo(), -2);
         Check.tell(x, "plan law 0 hands 4;");
         CHECK.due("plan() of one LINE", x.plan(), 1);
-        CHECK.row("count: no VERSIONS", counts(x), 0, 4, 0, 0, 0, 0, 1, 0);
+        CHECK.row("count: no VERSIONS", Check.counts(x), 0, 4, 0, 0, 0, 0, 1, 0);
         CHECK.due("all()", x.all(), 0);
         CHECK.due("lean()", x.lean(), 0);
         CHECK.due("undo()", x.undo(), -5);
@@ -116,99 +116,99 @@ public final class TextTest {
     }
 
     private static void soundTexts() {
-        sound("", 0);
-        sound(" ", 0);
-        sound("plan law 0 hands 1;", 1);
-        sound("\nplan\nlaw 0 hands 4 ;\n \n", 1);
-        sound("plan law0hands1;new;put0 999for99;put 1 0for1;take2;", 5);
-        sound("plan law 00 hands 01;new;put 000000000000 0999 for 0099;", 3);
-        sound(FULL, 8);
-        sound(FULL + "join 6 0;join 0 6;take 6;put 9 1 for 1;join 9 1;", 13);
-        sound(PLAN + "new;".repeat(20), 21);
-        sound(PLAN + "new;".repeat(20) + " ".repeat(501), 21);
+        CHECK.sound("", 0);
+        CHECK.sound(" ", 0);
+        CHECK.sound("plan law 0 hands 1;", 1);
+        CHECK.sound("\nplan\nlaw 0 hands 4 ;\n \n", 1);
+        CHECK.sound("plan law0hands1;new;put0 999for99;put 1 0for1;take2;", 5);
+        CHECK.sound("plan law 00 hands 01;new;put 000000000000 0999 for 0099;", 3);
+        CHECK.sound(FULL, 8);
+        CHECK.sound(FULL + "join 6 0;join 0 6;take 6;put 9 1 for 1;join 9 1;", 13);
+        CHECK.sound(PLAN + "new;".repeat(20), 21);
+        CHECK.sound(PLAN + "new;".repeat(20) + " ".repeat(501), 21);
     }
 
     private static void faultsOfTokens() {
-        fault(1, "^new;");
-        fault(1, "^;");
-        fault(1, "^0");
-        fault(1, "  ^planx law 0 hands 1;");
-        fault(1, "^Plan law 0 hands 1;");
-        fault(1, "plan ^hands 0 law 1;");
-        fault(1, "plan law ^;");
-        fault(1, "plan law ^x hands 1;");
-        fault(1, "plan law 0 ^law 1;");
-        fault(1, "plan law 0 hands ^hands;");
-        fault(1, "plan law 0 hands 1 ^new;");
-        fault(1, "plan law 0 hands 1^");
-        fault(1, "plan law 0 hands 1 \n ^");
-        fault(1, "plan ^");
-        fault(1, PLAN + "^;");
-        fault(1, PLAN + "new;^;");
-        fault(1, PLAN + "^plan law 1 hands 3;");
-        fault(1, PLAN + "^newnew;");
-        fault(1, PLAN + "^ne;");
-        fault(1, PLAN + "^xew;");
-        fault(1, PLAN + "^nex;");
-        fault(1, PLAN + "^newz;");
-        fault(1, PLAN + "^anew;");
-        fault(1, PLAN + "^`;");
-        fault(1, PLAN + "new^{;");
-        fault(1, PLAN + "new;put ^/ 5 for 1;");
-        fault(1, PLAN + "new;put 0^: 5 for 1;");
-        fault(1, PLAN + "^7;");
-        fault(1, PLAN + "new ^0;");
-        fault(1, PLAN + "new^");
-        fault(1, PLAN + "new;take^");
-        fault(1, PLAN + "new;put 0 5 ^4 1;");
-        fault(1, PLAN + "new;put 0 5 ^forx 1;");
-        fault(1, PLAN + "new;put 0 5 for ^for;");
-        fault(1, PLAN + "new;put 0 ^- 5 for 1;");
-        fault(1, PLAN + "new;put 0 5 for 1 ^2;");
-        fault(1, PLAN + "new;join 0 ^;");
-        fault(1, PLAN + "new;join 0 0 ^0;");
-        fault(1, PLAN + "new;put 0 5 for 1;take 1^,");
-        fault(1, PLAN + "new;^\tnew;");
-        fault(1, PLAN + "new;^\r\nnew;");
-        fault(1, PLAN + "new;^\0");
-        fault(1, PLAN + "new;^\u00e9;");
-        fault(1, PLAN + "ne^\u00e9w;".replace("ne^", "^ne"));
+        CHECK.fault(1, "^new;");
+        CHECK.fault(1, "^;");
+        CHECK.fault(1, "^0");
+        CHECK.fault(1, "  ^planx law 0 hands 1;");
+        CHECK.fault(1, "^Plan law 0 hands 1;");
+        CHECK.fault(1, "plan ^hands 0 law 1;");
+        CHECK.fault(1, "plan law ^;");
+        CHECK.fault(1, "plan law ^x hands 1;");
+        CHECK.fault(1, "plan law 0 ^law 1;");
+        CHECK.fault(1, "plan law 0 hands ^hands;");
+        CHECK.fault(1, "plan law 0 hands 1 ^new;");
+        CHECK.fault(1, "plan law 0 hands 1^");
+        CHECK.fault(1, "plan law 0 hands 1 \n ^");
+        CHECK.fault(1, "plan ^");
+        CHECK.fault(1, PLAN + "^;");
+        CHECK.fault(1, PLAN + "new;^;");
+        CHECK.fault(1, PLAN + "^plan law 1 hands 3;");
+        CHECK.fault(1, PLAN + "^newnew;");
+        CHECK.fault(1, PLAN + "^ne;");
+        CHECK.fault(1, PLAN + "^xew;");
+        CHECK.fault(1, PLAN + "^nex;");
+        CHECK.fault(1, PLAN + "^newz;");
+        CHECK.fault(1, PLAN + "^anew;");
+        CHECK.fault(1, PLAN + "^`;");
+        CHECK.fault(1, PLAN + "new^{;");
+        CHECK.fault(1, PLAN + "new;put ^/ 5 for 1;");
+        CHECK.fault(1, PLAN + "new;put 0^: 5 for 1;");
+        CHECK.fault(1, PLAN + "^7;");
+        CHECK.fault(1, PLAN + "new ^0;");
+        CHECK.fault(1, PLAN + "new^");
+        CHECK.fault(1, PLAN + "new;take^");
+        CHECK.fault(1, PLAN + "new;put 0 5 ^4 1;");
+        CHECK.fault(1, PLAN + "new;put 0 5 ^forx 1;");
+        CHECK.fault(1, PLAN + "new;put 0 5 for ^for;");
+        CHECK.fault(1, PLAN + "new;put 0 ^- 5 for 1;");
+        CHECK.fault(1, PLAN + "new;put 0 5 for 1 ^2;");
+        CHECK.fault(1, PLAN + "new;join 0 ^;");
+        CHECK.fault(1, PLAN + "new;join 0 0 ^0;");
+        CHECK.fault(1, PLAN + "new;put 0 5 for 1;take 1^,");
+        CHECK.fault(1, PLAN + "new;^\tnew;");
+        CHECK.fault(1, PLAN + "new;^\r\nnew;");
+        CHECK.fault(1, PLAN + "new;^\0");
+        CHECK.fault(1, PLAN + "new;^\u00e9;");
+        CHECK.fault(1, PLAN + "ne^\u00e9w;".replace("ne^", "^ne"));
     }
 
     private static void faultsOfNumbers() {
-        fault(2, "plan law ^2 hands 1;");
-        fault(2, "plan law ^2 hands 9;");
-        fault(2, "plan law 1 hands ^0;");
-        fault(2, "plan law 1 hands ^5;");
-        fault(2, "plan law 1 hands ^4294967297;");
-        fault(2, PLAN + "put ^0 5 for 1;");
-        fault(2, PLAN + "new;put ^1 5 for 1;");
-        fault(2, PLAN + "new;put 0 ^1000 for 1;");
-        fault(2, PLAN + "new;put 0 ^18446744073709551616 for 1;");
-        fault(2, PLAN + "new;put 0 999 for ^0;");
-        fault(2, PLAN + "new;put 0 999 for ^100;");
-        fault(2, PLAN + "new;join ^1 0;");
-        fault(2, PLAN + "new;join 0 ^1;");
-        fault(2, PLAN + "new;take ^1;");
-        fault(2, PLAN + "new;take ^0;");
-        fault(2, PLAN + "new;put 0 1 for 1;take 1;take ^2;");
-        fault(2, PLAN + "new;take ^0 x");
+        CHECK.fault(2, "plan law ^2 hands 1;");
+        CHECK.fault(2, "plan law ^2 hands 9;");
+        CHECK.fault(2, "plan law 1 hands ^0;");
+        CHECK.fault(2, "plan law 1 hands ^5;");
+        CHECK.fault(2, "plan law 1 hands ^4294967297;");
+        CHECK.fault(2, PLAN + "put ^0 5 for 1;");
+        CHECK.fault(2, PLAN + "new;put ^1 5 for 1;");
+        CHECK.fault(2, PLAN + "new;put 0 ^1000 for 1;");
+        CHECK.fault(2, PLAN + "new;put 0 ^18446744073709551616 for 1;");
+        CHECK.fault(2, PLAN + "new;put 0 999 for ^0;");
+        CHECK.fault(2, PLAN + "new;put 0 999 for ^100;");
+        CHECK.fault(2, PLAN + "new;join ^1 0;");
+        CHECK.fault(2, PLAN + "new;join 0 ^1;");
+        CHECK.fault(2, PLAN + "new;take ^1;");
+        CHECK.fault(2, PLAN + "new;take ^0;");
+        CHECK.fault(2, PLAN + "new;put 0 1 for 1;take 1;take ^2;");
+        CHECK.fault(2, PLAN + "new;take ^0 x");
     }
 
     private static void faultsOfVersions() {
-        fault(2, FULL + "put ^6 5 for 1;");
-        fault(2, FULL + "put ^6 1000 for 1;");
-        fault(2, FULL + "join 6 ^1;");
-        fault(2, FULL + "join 1 ^6;");
-        fault(2, FULL + "join 5 ^5;");
-        fault(3, PLAN + "new;".repeat(20) + "^new;");
-        fault(3, PLAN + "new;".repeat(20) + "^put 0 1 for 1;");
-        fault(3, PLAN + "new;".repeat(20) + "^join x");
-        fault(3, PLAN + "new;".repeat(20) + "^take 0;");
-        fault(1, PLAN + "new;".repeat(20) + "^plan law 0 hands 1;");
-        fault(1, PLAN + "new;".repeat(20) + "^news;");
-        fault(1, PLAN + "new;".repeat(20) + "^;");
-        fault(2, PLAN + "new;".repeat(19) + "join 0 ^19;");
+        CHECK.fault(2, FULL + "put ^6 5 for 1;");
+        CHECK.fault(2, FULL + "put ^6 1000 for 1;");
+        CHECK.fault(2, FULL + "join 6 ^1;");
+        CHECK.fault(2, FULL + "join 1 ^6;");
+        CHECK.fault(2, FULL + "join 5 ^5;");
+        CHECK.fault(3, PLAN + "new;".repeat(20) + "^new;");
+        CHECK.fault(3, PLAN + "new;".repeat(20) + "^put 0 1 for 1;");
+        CHECK.fault(3, PLAN + "new;".repeat(20) + "^join x");
+        CHECK.fault(3, PLAN + "new;".repeat(20) + "^take 0;");
+        CHECK.fault(1, PLAN + "new;".repeat(20) + "^plan law 0 hands 1;");
+        CHECK.fault(1, PLAN + "new;".repeat(20) + "^news;");
+        CHECK.fault(1, PLAN + "new;".repeat(20) + "^;");
+        CHECK.fault(2, PLAN + "new;".repeat(19) + "join 0 ^19;");
     }
 
     /** What an earlier text told is of no weight for a later one. */
@@ -226,33 +226,5 @@ public final class TextTest {
         CHECK.due("plan()", x.plan(), 5);
         CHECK.due("size(3)", x.size(3), 1);
         CHECK.due("size(4)", x.size(4), -2);
-    }
-
-    private static void sound(String text, int lines) {
-        HeapVersions x = new HeapVersions();
-        Check.tell(x, text);
-        CHECK.due("plan() of " + text, x.plan(), lines);
-        CHECK.due("fault(0) of " + text, x.fault(0), 0);
-        CHECK.due("fault(1) of " + text, x.fault(1), -1);
-        CHECK.due("count(6) of " + text, x.count(6), lines);
-    }
-
-    /** The sign ^ stands ahead of the place of the FAULT. */
-    private static void fault(int what, String marked) {
-        HeapVersions x = new HeapVersions();
-        Check.tell(x, marked.replace("^", ""));
-        CHECK.due("plan() of " + marked, x.plan(), -4);
-        CHECK.due("fault(0) of " + marked, x.fault(0), what);
-        CHECK.due("fault(1) of " + marked, x.fault(1), marked.indexOf('^'));
-        CHECK.due("count(6) of " + marked, x.count(6), 0);
-        CHECK.due("count(7) of " + marked, x.count(7), 0);
-    }
-
-    private static int[] counts(HeapVersions x) {
-        int[] counts = new int[8];
-        for (int what = 0; what < 8; what++) {
-            counts[what] = x.count(what);
-        }
-        return counts;
     }
 }
