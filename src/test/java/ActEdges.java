@@ -28,6 +28,46 @@ final class ActEdges {
         c.due("drain(6) behind " + call, x.drain(6), drain);
     }
 
+    // ---- what it is
+
+    @Edge(of = "0", says = "An object is used for at most 512 calls after it has been made; what later calls answer is free.")
+    static void p00_512CallsAreAnsweredAsDue(Check c) {
+        int[] links = new int[23];
+        int drain = 0;
+        HeapVersions fresh = c.told(FULL, 8);
+        for (int i = 0; i < 23; i++) {
+            links[i] = fresh.links(fresh.takes(6 + i));
+            drain += links[i];
+        }
+        int told = Check.fives(FULL.getBytes()).length + 3;
+        c.due("calls to tell the PLAN", told, 8);
+        HeapVersions drained = c.told(FULL, 8);
+        for (int call = told + 1; call <= 512; call++) {
+            c.due("call " + call + ", drain(6)", drained.drain(6), drain);
+        }
+        HeapVersions undone = c.told(FULL, 8);
+        for (int call = told + 2; call <= 510; call += 2) {
+            c.due("call " + (call - 1) + ", takes(6)", undone.takes(6), 7);
+            c.due("call " + call + ", undo()", undone.undo(), 0);
+        }
+        c.due("call 511, takes(6)", undone.takes(6), 7);
+        c.due("call 512, links(7)", undone.links(7), links[0]);
+        HeapVersions anew = c.told(FULL, 8);
+        for (int call = told; call + 24 < 512; call += 24) {
+            takeAll(c, anew);
+            c.due("anew()", anew.anew(), 23);
+        }
+        takeAll(c, anew);
+        c.due("call 512, drain(6) of 30 VERSIONS", anew.drain(6), drain);
+    }
+
+    /** 23 acts, the last of which leaves one JOB. */
+    private static void takeAll(Check c, HeapVersions x) {
+        for (int v = 7; v < 30; v++) {
+            c.due("takes(" + (v - 1) + ")", x.takes(v - 1), v);
+        }
+    }
+
     // ---- promise 38
 
     @Edge(of = "38", says = "A VERSION is made by putting a JOB of a KEY (0 .. 999) and a TIME (1 .. 99) to one: its number")
@@ -194,6 +234,15 @@ final class ActEdges {
         c.row("nor is the one ahead of it", new int[] {x.size(7), x.size(6), x.count(2), x.all()}, -2, 24, 7, links);
         c.due("its number is given again", x.takes(1), 7);
         c.row("to another one", new int[] {x.size(7), x.version(7, 1), x.parts(7), x.links(7)}, 0, 1, 0, 0);
+        // by LAW 0, VERSION 8 of eight JOBS has SINGLES; by turns its take and a put make what stands in the same room
+        HeapVersions y = c.told("plan law 0 hands 1;new;put 0 1 for 1;put 1 2 for 1;put 2 3 for 1;put 3 4 for 1;put 4 5 for 1;"
+                + "put 5 6 for 1;put 6 7 for 1;put 7 8 for 1;put 0 99 for 1;put 9 98 for 1;put 10 97 for 1;", 13);
+        for (int[] due : new int[][] {{8, 7, 11, 3, 2}, {1, 2, 3, 2, 2}, {11, 4, 7, 2, 4}, {1, 2, 3, 2, 2}, {8, 7, 11, 3, 2}}) {
+            int v = due[0] == 8 ? y.takes(8) : y.puts(due[0], 0, 1);
+            c.row("VERSION 12 of " + due[0], new int[] {v, y.size(v), y.parts(v), y.own(v), y.depth(v)}, 12, due[1], due[2], due[3],
+                    due[4]);
+            c.due("undo()", y.undo(), 0);
+        }
     }
 
     @Edge(of = "41", says = "(and its JOB, of a put)")
@@ -210,6 +259,12 @@ final class ActEdges {
         c.row("its JOB is no more", new int[] {x.count(3), x.job(1, 0), x.times(0, 1)}, 1, -2, -2);
         x.puts(0, 8, 4);
         c.row("its number is given again", new int[] {x.version(7, 3), x.job(1, 0), x.job(1, 1), x.least(7)}, 1, 8, 4, 1);
+        x.puts(7, 9, 5);
+        x.puts(8, 9, 6);
+        for (int jobs = 3; jobs >= 1; jobs--) {
+            x.undo();
+            c.due("one JOB less each time", x.count(3), jobs);
+        }
     }
 
     @Edge(of = "41", says = "is no more: how many acts there are")

@@ -47,10 +47,12 @@ final class Edges {
         return check.wrongs() - before;
     }
 
-    /** The document's sections by the number of their promise or term, without their heads, blanks made one. */
+    /** The document's sections by the number of their promise or term (0: what it is), without their heads, blanks made one. */
     static Map<String, String> sections() throws IOException {
         String text = Files.readString(Path.of("../shared/DOC.md"));
         Map<String, String> sections = new LinkedHashMap<>();
+        int use = text.indexOf("An object is used");
+        sections.put("0", plain(text.substring(use, text.indexOf('\n', use))));
         int begin = text.indexOf("## Terms");
         int end = text.indexOf("## Promise 1:");
         String[] terms = text.substring(begin, end).split("(?m)^(?=I[IV]*\\. )");
@@ -71,7 +73,7 @@ final class Edges {
 
     /** Each test quotes the document, is named by what it quotes, and nothing is left that none quotes. */
     static void quotes(Check check, Map<String, String> sections) {
-        check.due("sections of the document", sections.size(), 46);
+        check.due("sections of the document", sections.size(), 47);
         Map<String, BitSet> quoted = new LinkedHashMap<>();
         for (String section : sections.keySet()) {
             quoted.put(section, new BitSet());

@@ -20,6 +20,11 @@ public final class EdgesTest {
         check.finish();
     }
 
+    /** For the program that breaks the class: the names of all tests. */
+    public static String[] names() {
+        return Edges.all().stream().map(Method::getName).toArray(String[]::new);
+    }
+
     /** For the program that breaks the class: how many answers of one test are not as due; -1: there is no such test. */
     public static int wrongOf(String name) {
         for (Method test : Edges.all()) {

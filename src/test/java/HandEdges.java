@@ -69,7 +69,8 @@ final class HandEdges {
     static void tIV_ofSeveralByTheLeastNumber(Check c) {
         c.row("all are free at 0", hand(by(c, 4), 2), 0, 1);
         c.row("both are free at 4", hand(by(c, 2), 5), 0, 1, 0, 0, 1);
-        HeapVersions x = c.told("plan law 0 hands 3;new;put 0 1 for 5;put 1 2 for 3;put 2 3 for 3;put 3 4 for 1;put 4 5 for 9;", 7);
+        HeapVersions x = c.told("plan law 0 hands 3;new;put 0 1 for 5;put 1 2 for 3;put 2 3 for 3;put 3 4 for 1;"
+                + "put 4 5 for 9;", 7);
         c.row("1 and 2 are free at 3", hand(x, 5), 0, 1, 2, 1, 2);
         HeapVersions full = c.told(FULL.replace("hands 1", "hands 4"), 8);
         for (int i = 0; i < 24; i++) {
@@ -87,7 +88,8 @@ final class HandEdges {
 
     @Edge(of = "IV", says = "it is LATE, if it is done behind its KEY")
     static void tIV_lateIfDoneBehindItsKey(Check c) {
-        HeapVersions x = c.told("plan law 0 hands 1;new;put 0 5 for 4;put 0 5 for 5;put 0 5 for 6;put 0 0 for 1;put 0 99 for 99;", 7);
+        HeapVersions x = c.told("plan law 0 hands 1;new;put 0 5 for 4;put 0 5 for 5;put 0 5 for 6;put 0 0 for 1;"
+                + "put 0 99 for 99;", 7);
         c.due("done ahead of its KEY", x.done(1, 1), 0);
         c.due("done at its KEY", x.done(2, 1), 0);
         c.due("done 1 behind its KEY", x.done(3, 1), 1);
@@ -121,6 +123,8 @@ final class HandEdges {
         c.row("by four", done(by(c, 4), 5), 4, 1, 1, 1);
         HeapVersions x = c.told("plan law 1 hands 1;new;put 0 0 for 99;join 1 1;join 2 2;join 3 3;join 4 4;join 5 4;", 8);
         c.row("24 JOBS of KEY 0 for 99", done(x, 6), 2376, 24, 99 * 300, 2376);
+        HeapVersions y = c.told("plan law 0 hands 1;new;put 0 5 for 20;put 1 19 for 1;put 2 40 for 1;", 5);
+        c.row("LATE by 15, by 2, not", done(y, 3), 22, 2, 17, 15);
     }
 
     @Edge(of = "34", says = "(0: none is)")

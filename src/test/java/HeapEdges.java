@@ -92,7 +92,8 @@ final class HeapEdges {
         c.due("the first one's head is less", c.told(LAW1 + puts(1, 3, 2), 5).head(3, 0), 2);
         // the take ends with the LINK of a TREE of the head j1 (KEY 3) without SINGLES, and of one with a SINGLE
         HeapVersions second = c.told(LAW0 + puts(1, 3, 3, 1, 3, 3, 2) + "take 7;", 10);
-        c.row("that one's head, of KEY 2, is less", new int[] {second.rank(8, 0), second.head(8, 0), second.singles(8, 0)}, 2, 6, 1);
+        c.row("that one's head, of KEY 2, is less",
+                new int[] {second.rank(8, 0), second.head(8, 0), second.singles(8, 0)}, 2, 6, 1);
         HeapVersions first = c.told(LAW0 + puts(1, 3, 3, 1, 3, 3, 4) + "take 7;", 10);
         c.row("j1 is less", new int[] {first.rank(8, 0), first.head(8, 0), first.singles(8, 0)}, 2, 1, 0);
     }
@@ -326,15 +327,20 @@ final class HeapEdges {
             c.row("new", new int[] {x.size(v), x.least(v), x.trees(v), x.parts(v), x.own(v), x.links(v)}, 0, -1, 0, 0, 0, 0);
         }
         c.row("a put behind it", new int[] {x.size(4), x.least(4)}, 1, 2);
+        Check.tell(x, "plan law 0 hands 1;new;new;new;");
+        c.due("plan()", x.plan(), 4);
+        c.row("in place of one with two JOBS", new int[] {x.size(2), x.least(2), x.trees(2), x.parts(2)}, 0, -1, 0, 0);
     }
 
     @Edge(of = "II", says = "put: JOIN of a new HEAP of that JOB with no TREES and of V")
     static void tII_putJoinsANewHeap(Check c) {
-        HeapVersions x = c.told(LAW0 + puts(5, 6, 1) + "put 0 5 for 1;", 6);
+        HeapVersions x = c.told(LAW0 + puts(5, 6, 1) + "put 0 5 for 1;put 2 7 for 1;", 7);
         c.row("to an empty one", new int[] {x.parts(1), x.own(1), x.trees(1)}, 1, 1, 0);
         c.row("to a lesser one: a HEAP, a TREE, j1", new int[] {x.own(2), x.shared(2, 1), x.head(2, 0)}, 3, 0, 1);
-        c.row("to a greater one: a HEAP, a TREE of it", new int[] {x.own(3), x.shared(3, 2), x.head(3, 0), x.holds(3, 0)}, 2, 3, 0, 2);
+        c.row("to a greater one: a HEAP, a TREE of it",
+                new int[] {x.own(3), x.shared(3, 2), x.head(3, 0), x.holds(3, 0)}, 2, 3, 0, 2);
         c.due("a new one each time", x.shared(4, 1), 0);
+        c.row("to a lesser one with a TREE", new int[] {x.own(5), x.parts(5), x.head(5, 0), x.holds(5, 0)}, 3, 5, 4, 1);
     }
 
     @Edge(of = "II", says = "join: JOIN of the first V and of the second V")

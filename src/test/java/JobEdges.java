@@ -198,6 +198,10 @@ final class JobEdges {
         c.due("a JOB of a later VERSION", x.times(1, 2), 0);
         HeapVersions y = c.told(FULL, 8);
         c.due("times(6, 0)", y.times(6, 0), 24);
+        y.joins(1, 1);
+        y.undo();
+        y.joins(0, 1);
+        c.due("times(7, 0): not of one that is no more", y.times(7, 0), 1);
     }
 
     @Edge(of = "12", says = "-2: there are none such")
@@ -254,6 +258,10 @@ final class JobEdges {
         c.due("more(5, 3): JOB 0 once more", y.more(5, 3), 1);
         c.due("more(1, 2)", y.more(1, 2), 0);
         c.due("more(2, 1)", y.more(2, 1), 1);
+        x.joins(1, 1);
+        x.undo();
+        x.joins(0, 1);
+        c.row("not of one that is no more", new int[] {x.more(2, 7), x.more(7, 2), x.more(3, 7)}, 1, 0, 3);
     }
 
     @Edge(of = "29", says = "-2 likewise")
@@ -305,6 +313,7 @@ final class JobEdges {
         c.due("from(3, 4)", x.from(3, 4), 0);
         c.due("from(5, 3)", x.from(5, 3), 0);
         c.due("from(7, 6)", x.from(7, 6), 0);
+        c.row("from(6, 3), from(6, 4): lesser numbers are not enough", new int[] {x.from(6, 3), x.from(6, 4)}, 0, 0);
         c.due("from(0, 4): the same JOBS are not enough", x.from(0, 4), 0);
         // a VERSION that is no more leaves no trace to the one in its place
         x.takes(3);
@@ -372,8 +381,8 @@ final class JobEdges {
 
     @Edge(of = "III", says = "(take of an empty one: an empty one)")
     static void tIII_takeOfAnEmptyOneIsAnEmptyOne(Check c) {
-        HeapVersions x = c.told("plan law 0 hands 1;new;put 0 5 for 1;take 1;put 2 6 for 1;put 1 7 for 1;take 4;take 5;put 6 8 for 1;",
-                9);
+        HeapVersions x = c.told("plan law 0 hands 1;new;put 0 5 for 1;take 1;put 2 6 for 1;put 1 7 for 1;take 4;take 5;"
+                + "put 6 8 for 1;", 9);
         c.row("left without VERSION 1", new int[] {x.left(1, 1), x.left(2, 1), x.left(3, 1)}, 0, 0, 1);
         // 4 has JOB 2 alone then, 5 none, and a take of none is none: 7 has JOB 3
         c.row("left", new int[] {x.left(4, 1), x.left(5, 1), x.left(6, 1), x.left(7, 1)}, 1, 0, 0, 1);

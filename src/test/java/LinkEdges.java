@@ -42,7 +42,7 @@ final class LinkEdges {
         // what is made to answer is of no VERSION
         zero.drain(8);
         zero.dearest(8);
-        c.due("links(11) behind drain()", zero.links(11), 2);
+        c.row("links behind drain()", new int[] {zero.links(8), zero.links(9), zero.links(10), zero.links(11)}, 1, 2, 0, 2);
     }
 
     @Edge(of = "22", says = "-2: there is no such VERSION")
@@ -92,6 +92,10 @@ final class LinkEdges {
             c.due("takes(9)", x.takes(9), 10);
             // by LAW 0 the only TREE goes out, with a SINGLE; by LAW 1 one of RANK 1, and that of RANK 2 is left
             c.row("of an act", new int[] {x.by(0, 10), x.by(1, 10)}, 2, 0);
+            c.due("takes(8)", x.takes(8), 11);
+            c.row("of another act", new int[] {x.by(0, 11), x.by(1, 11)}, 2, 2);
+            c.due("joins(4, 2)", x.joins(4, 2), 12);
+            c.row("of a join", new int[] {x.by(0, 12), x.by(1, 12)}, 0, 2);
         }
     }
 

@@ -113,6 +113,13 @@ final class TextEdges {
         c.sound(PLAN + "new;put 0 5 for 1;put 1 5 for 1;join 2 2;take 3;", 6);
         c.sound(PLAN + "new;".repeat(19) + "join 18 18;", 21);
         c.fault(2, PLAN + "new;".repeat(19) + "join 18 ^19;");
+        // VERSIONS of an earlier PLAN are none of this one
+        HeapVersions x = c.told(FULL, 8);
+        for (String line : new String[] {"take 1;", "take 6;", "put 6 1 for 1;", "join 1 0;", "join 0 1;"}) {
+            Check.tell(x, PLAN + "new;" + line);
+            c.due("plan() of " + line, x.plan(), -4);
+            c.due("fault(0) of " + line, x.fault(0), 2);
+        }
     }
 
     @Edge(of = "I", says = "put: the next JOB, 0 on,")
@@ -299,7 +306,11 @@ final class TextEdges {
         c.fault(1, "plan ^hands 1 law 0;");
         c.fault(1, "plan law ^law;");
         c.fault(1, PLAN + "^7;");
-        c.fault(1, PLAN + "^for;");
+        for (String word : new String[] {"xew", "nxw", "nex", "xut", "xoin", "xake", "tak", "newx", "for"}) {
+            c.fault(1, PLAN + "new;^" + word + " 0;");
+        }
+        c.fault(1, "plan ^xaw 0 hands 1;");
+        c.fault(1, "plan law 0 ^hand 1;");
         c.fault(1, PLAN + "^law;");
         c.fault(1, PLAN + "new ^0;");
         c.fault(1, PLAN + "new;put 0 5 ^4 1;");
@@ -502,6 +513,12 @@ final class TextEdges {
         x.feed(-1, -1, -1, -1, -1);
         c.due("plan()", x.plan(), -4);
         c.due("fault(1)", x.fault(1), 0);
+        // what would be a blank, a sign, a letter, a digit without its highest bit
+        for (int sign : new int[] {0xa0, 0x8a, 0xbb, 0xf0, 0xb0}) {
+            x.feed(0x20202020, sign << 24 | 0x202020, 0x20202020, 0x20202020, 0x20202020);
+            c.due("plan() of " + sign, x.plan(), -4);
+            c.row("fault of " + sign, new int[] {x.fault(0), x.fault(1)}, 1, 4);
+        }
     }
 
     @Edge(of = "2", says = ": how many it has")
@@ -623,7 +640,7 @@ final class TextEdges {
     @Edge(of = "4", says = "(0: there is none then)")
     static void p04_thereIsNoPlanThen(Check c) {
         for (String nothing : new String[] {"", " ", "\n", " \n ".repeat(200)}) {
-            HeapVersions x = c.told(FULL, 8);
+            HeapVersions x = c.told(FULL.replace("law 0 hands 1", "law 1 hands 3"), 8);
             x.puts(0, 5, 5);
             Check.tell(x, nothing);
             c.due("plan() of nothing", x.plan(), 0);

@@ -146,13 +146,16 @@ final class TreeEdges {
         HeapVersions y = c.told("plan law 1 hands 1;" + UP, 10);
         c.due("depth(8): TREES in TREES are no HEAPS", y.depth(8), 2);
         // a SINGLE is deepest: VERSION 3 is put beside the LINK of JOBS 3 and 4
-        HeapVersions single = c.told("plan law 0 hands 1;new;put 0 30 for 1;put 1 20 for 1;put 2 15 for 1;put 0 1 for 1;put 4 2 for 1;"
-                + "put 5 3 for 1;join 6 3;", 9);
+        HeapVersions single = c.told("plan law 0 hands 1;new;put 0 30 for 1;put 1 20 for 1;put 2 15 for 1;put 0 1 for 1;"
+                + "put 4 2 for 1;put 5 3 for 1;join 6 3;", 9);
         c.row("in a SINGLE", new int[] {single.depth(6), single.singles(7, 0), single.head(7, 0), single.depth(7)}, 2, 1, 4, 4);
         // a SUBTREE's head is deepest: VERSION 3 is put first, and LINKED with that of JOB 4
         HeapVersions sub = c.told("plan law 1 hands 1;new;put 0 30 for 1;put 1 20 for 1;put 2 15 for 1;put 0 1 for 1;join 4 3;"
                 + "put 5 2 for 1;", 8);
         c.row("in a SUBTREE", new int[] {sub.depth(5), sub.rank(6, 0), sub.head(6, 0), sub.depth(6)}, 4, 1, 4, 4);
+        c.due("puts(4, 2, 1)", sub.puts(4, 2, 1), 7);
+        c.due("joins(7, 3)", sub.joins(7, 3), 8);
+        c.row("in that of the first of a LINK", new int[] {sub.depth(7), sub.rank(8, 0), sub.head(8, 0), sub.depth(8)}, 2, 1, 5, 4);
     }
 
     @Edge(of = "18", says = "(0: it is empty; 1: one JOB alone)")
